@@ -690,7 +690,7 @@ public final class ToldInKnots {
         // what hangs where
 
         int holderOf(int c) {
-            return hasCord(c) ? at(row, HOLDERS + c) : NONE;
+            return c >= 0 && c < MOST_CORDS ? at(row, HOLDERS + c) : NONE;
         }
 
         int depthOf(int c) {
@@ -867,13 +867,13 @@ public final class ToldInKnots {
 
         /** A cord of the latest group, still without a cluster. */
         void addCord(int colour, int holder, int depth, boolean top) {
-            int c = cords();
+            int c = at(row, CORD_COUNT);
             put(row, COLOURS + c, colour);
             put(row, SIZES + c, 0);
             put(row, HOLDERS + c, holder);
             put(row, DEPTHS + c, depth);
             put(row, TOPS + c, top ? 1 : 0);
-            put(row, IN_GROUPS + c, groups() - 1);
+            put(row, IN_GROUPS + c, at(row, GROUP_COUNT) - 1);
             if (depth == 0 && !top) {
                 put(row, LINE + at(row, LINE_COUNT), c);
                 put(row, LINE_COUNT, at(row, LINE_COUNT) + 1);
@@ -883,12 +883,13 @@ public final class ToldInKnots {
 
         /** A cluster of the latest cord: it is the ones now, and all told ahead of it go up by a place. */
         void addCluster(int code) {
-            int c = cords() - 1;
-            int size = sizeOf(c);
+            int c = at(row, CORD_COUNT) - 1;
+            int ones = CODES + MOST_CLUSTERS * c;
+            int size = at(row, SIZES + c);
             for (int k = size; k > 0; k--) {
-                setCode(c, k, codeOf(c, k - 1));
+                put(row, ones + k, at(row, ones + k - 1));
             }
-            setCode(c, 0, code);
+            put(row, ones, code);
             put(row, SIZES + c, size + 1);
         }
     }
@@ -924,8 +925,8 @@ public final class ToldInKnots {
                 case OUTSIDE: return letter == '[' && opensGroup();
                 case COLOUR_DUE: return opensCord(letter);
                 case CLUSTER_DUE: return opensCluster(letter);
-                case SINGLE_DUE: return endsCluster(letter, SINGLE);
-                case LONG_DUE: return endsCluster(letter, LONG);
+                case SINGLE_DUE: return endsCluster(SINGLE, letter - '0');
+                case LONG_DUE: return endsCluster(LONG, letter - '0');
                 case IN_CLUSTERS: return opensCluster(letter) || opensHanging(letter) || comesBehindCord(letter);
                 default: return comesBehindCord(letter);
             }
@@ -957,21 +958,19 @@ public final class ToldInKnots {
                 return false;
             }
             switch (letter) {
-                case '.': return addsCluster(10 * GAP);
-                case 'e': return addsCluster(10 * EIGHT + 1);
+                case '.': return endsCluster(GAP, 0);
+                case 'e': return endsCluster(EIGHT, 1);
                 case 's': state = SINGLE_DUE; return true;
                 case 'l': state = LONG_DUE; return true;
                 default: return false;
             }
         }
 
-        private boolean endsCluster(char letter, int kind) {
-            int number = letter - '0';
-            return canCount(kind, number) && addsCluster(10 * kind + number);
-        }
-
-        private boolean addsCluster(int code) {
-            draft.addCluster(code);
+        private boolean endsCluster(int kind, int number) {
+            if (!canCount(kind, number)) {
+                return false;
+            }
+            draft.addCluster(10 * kind + number);
             state = IN_CLUSTERS;
             return true;
         }

@@ -361,6 +361,7 @@ public final class PromiseTest {
         due("11: too much for one CLUSTER", x.more(1, 1), NO);
         due("11: not WELL KNOTTED", x.more(2, 1), NO);
         due("11: not WELL KNOTTED, by 0", x.more(2, 0), NO);
+        due("11: not WELL KNOTTED, by 9", x.more(2, 9), NO);
         due("11: a TOP", x.more(3, -4), 300);
         due("11: 9999", x.more(0, 9999), NO);
         due("11: 10000", x.more(0, 10000), BAD);
@@ -609,6 +610,7 @@ public final class PromiseTest {
         x.knot(8, 0, 1, 3);
         due("19: no WHOLE of the TOP", x.lost(7), NONE);
         due("19: no TOP", x.lost(9), NONE);
+        due("19: no TOP, and all have WHOLES", Texts.laid("[1e][2l5^3l9]").lost(0), NONE);
         due("19: no PENDANT", x.lost(1), NO);
         due("19: hangs from a TOP", x.lost(6), NO);
         due("19: a TOP", x.lost(5), NO);
@@ -709,6 +711,7 @@ public final class PromiseTest {
         share("[" + Texts.repeated("1s9s9s9l9", 15) + "]", 0, 0x7F, 9999);
         share("[1s1...1s2..1s4.1l8]", 0, 0b0001, 1000 - 248);
         share("[1e1e1e1e1e1e1e1e1e1l9]", 0, 0b111111111, 0);
+        share("[" + Texts.repeated("1s1..", 8) + "1s9s9.1s2..]", 0, 0x100, 10);
         due("22: what = 2", new ToldInKnots().share(0, 2), BAD);
         due("22: what = -1", new ToldInKnots().share(0, -1), BAD);
         due("22: GROUP 2 of 2", new ToldInKnots().share(2, 0), BAD);
