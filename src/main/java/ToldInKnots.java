@@ -16,7 +16,7 @@ public final class ToldInKnots {
     private static final int ALL_GROUPS = 5;
 
     private static final int GAP = 0, SINGLE = 1, LONG = 2, EIGHT = 3;
-    private static final int[] TENS = {1, 10, 100, 1000, 10000, 100000};
+    private static final int[] TENS = {1, 10, 100, 1000, 10000};
 
     private static final String FIRST_TEXT = "[1s2.l3(4e)2s1e^3s3.l4][1l5(2l2(7.))]";
 

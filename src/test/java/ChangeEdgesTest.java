@@ -313,6 +313,18 @@ public final class ChangeEdgesTest {
         is.due("four EIGHTS", x.cord(0, 10), 8);
     }
 
+    static void promise12_thatClusterAlone(Edges is) {
+        for (int c = 0; c < 16; c++) {
+            ToldInKnots x = Texts.laid("[" + Texts.repeated("1....", 16) + "]");
+            x.knot(c, c % 4, 1, 5);
+            for (int d = 0; d < 16; d++) {
+                for (int k = 0; k < 4; k++) {
+                    is.due("CLUSTER " + k + " of " + d, x.cluster(d, k), d == c && k == c % 4 ? 15 : 0);
+                }
+            }
+        }
+    }
+
     static void promise12_answersKnotsOfTheCordAlone(Edges is) {
         is.due("[1s9.l9(2l9)]", x -> x.knot(0, 1, 1, 1), 19);
         is.due("[1s9.l9(2l9)]", x -> x.knot(1, 0, 3, 1), 2);
@@ -348,6 +360,16 @@ public final class ChangeEdgesTest {
         refused(is, x -> x.dye(LEAST, 1), BAD);
         refused(is, x -> x.dye(MOST, 1), BAD);
         is.due(SMALL, x -> x.dye(4, 0), 6);
+    }
+
+    static void promise13_thatCordAlone(Edges is) {
+        for (int c = 0; c < 16; c++) {
+            ToldInKnots x = Texts.laid("[" + Texts.repeated("1e", 16) + "]");
+            x.dye(c, 7);
+            for (int d = 0; d < 16; d++) {
+                is.due("COLOUR of " + d, x.cord(d, 0), d == c ? 7 : 1);
+            }
+        }
     }
 
     static void promise13_answersTheColourUntilThen(Edges is) {

@@ -304,6 +304,24 @@ public final class GroupEdgesTest {
         lost(is, "[1e(2e(3e)4e)^3l9]", 6);
     }
 
+    static void promise19_anyPendantOfTheGroup(Edges is) {
+        String text = "[9s9][1l2(1e)1l3(1l4)1l5^1s4.]";
+        is.due(text, x -> x.lost(1), 40 - 1 - 3 - 4 - 5);
+        is.due(text, x -> x.lost(3), 40 - 2 - 1 - 4 - 5);
+        is.due(text, x -> x.lost(5), 40 - 2 - 1 - 3 - 4);
+        is.due("[1s12e^3l9]", x -> x.lost(0), 8);
+        is.due("[1s12e^3l9]", x -> x.lost(1), NONE);
+        is.due("[1e2s1^3l9]", x -> x.lost(1), 8);
+    }
+
+    static void promise19_oneThatWasHungCountsInItsNewGroup(Edges is) {
+        ToldInKnots x = Texts.laid("[1l2(1e)1l3^1l9][1l5^1s2.]");
+        x.hang(0, 1);
+        is.due("its own", x.lost(0), 20 - 5 - 1);
+        is.due("of one that was there", x.lost(4), 20 - 2 - 1);
+        is.due("of one that stays", x.lost(2), 9);
+    }
+
     static void promise19_itsOwnValueIsNotAsked(Edges is) {
         lost(is, "[1s5^2l9]", 9);
         lost(is, "[1s5(2l2)^2l9]", 7);

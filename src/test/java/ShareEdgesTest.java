@@ -129,6 +129,48 @@ public final class ShareEdgesTest {
         share(is, "[1l31l41l51l6]", 0, 0b0110, 0);
     }
 
+    static void promise22_theLowestNotTheFewest(Edges is) {
+        share(is, "[1e1l21l31l6]", 0, 0b0111, 0);
+        share(is, "[1l31l4]", 0, 0b01, 1);
+        share(is, "[1l41l3]", 0, 0b01, 1);
+        share(is, "[1l21l31l8]", 0, 0b011, 3);
+        share(is, "[1e1e1l9]", 0, 0b011, 7);
+    }
+
+    static void promise22_manyAreLessThanOne(Edges is) {
+        share(is, "[" + Texts.repeated("1e", 15) + "1s1l6]", 0, 0x7FFF, 1);
+        share(is, "[" + Texts.repeated("1s1.", 8) + Texts.repeated("1.", 6) + "1s9l91s2.]", 0, 1 << 14, 1);
+        share(is, "[1s9l9" + Texts.repeated("1e", 15) + "]", 0, 1, 84);
+    }
+
+    private static final String MIXED = "[1l91s1e1l31s2.1l51s1l21l21s3e1l71s2l9][1l41e1s4.1l61s1l81l2]";
+
+    /** Whatever was asked of an object, it answers as a new one does. */
+    static void promise22_askedAgainBehindOthers(Edges is) {
+        int[] groups = {5, 0, 1, 5, 1, 0};
+        ToldInKnots x = Texts.laid(MIXED);
+        for (int g : groups) {
+            for (int what = 0; what <= 1; what++) {
+                is.due("share(" + g + ", " + what + ")", x.share(g, what), Texts.laid(MIXED).share(g, what));
+            }
+            is.due("make(77)", x.make(77), Texts.laid(MIXED).make(77));
+            is.due("make(300)", x.make(300), Texts.laid(MIXED).make(300));
+        }
+    }
+
+    static void promise22_behindOneThatIsNotWellKnottedAnyMore(Edges is) {
+        ToldInKnots x = Texts.laid("[" + Texts.repeated("1l9", 8) + "][" + Texts.repeated("1l9", 8) + "]");
+        is.due("all of them", x.share(5, 0), 0xFF);
+        is.due("GROUP 1", x.share(1, 0), 0x0F00);
+        x.knot(8, 0, 1, 9);
+        is.due("none", x.share(1, 0), NONE);
+        is.due("none by how much", x.share(5, 1), NONE);
+        is.due("GROUP 0", x.share(0, 0), 0x0F);
+        x.tie(8, 1);
+        is.due("GROUP 1 again", x.share(1, 0), 0x0700 | 0x0800);
+        is.due("GROUP 1 by how much", x.share(1, 1), 8);
+    }
+
     static void promise22_sixteen(Edges is) {
         share(is, "[" + Texts.repeated(LONGEST, 16) + "]", 0, 0xFF, 0);
         share(is, "[" + Texts.repeated("1.", 14) + "1l91l9]", 0, 1 << 14, 0);
@@ -260,6 +302,45 @@ public final class ShareEdgesTest {
         make(is, "[1s31l2]", 3, NONE);
         make(is, "[1s31l21e]", 3, 0b110);
         make(is, "[1e.1l2]", 10, NONE);
+    }
+
+    static void promise23_thoseNotWellKnottedTakeNothingAway(Edges is) {
+        for (int v = 1; v <= 8; v++) {
+            make(is, "[1s11l9]", v, NONE);
+            make(is, "[1l91s1]", v, NONE);
+        }
+        make(is, "[1s11l9]", 9, 0b10);
+    }
+
+    static void promise23_askedAgainBehindOthers(Edges is) {
+        ToldInKnots x = Texts.laid("[1l21l31l4]");
+        for (int i = 0; i < 3; i++) {
+            is.due("make(9)", x.make(9), 0b111);
+            is.due("make(18)", x.make(18), NONE);
+            is.due("make(6)", x.make(6), 0b101);
+        }
+        x.knot(2, 0, 1, 4);
+        int[] want = {0, NONE, 1, 2, NONE, 3, NONE, NONE, NONE, NONE};
+        for (int v = 0; v <= 9; v++) {
+            is.due("make(" + v + ") without CORD 2", x.make(v), want[v]);
+        }
+        x.undo();
+        x.knot(0, 0, 1, 2);
+        int[] then = {0, NONE, NONE, 2, 4, NONE, NONE, 6, NONE, NONE};
+        for (int v = 9; v >= 0; v--) {
+            is.due("make(" + v + ") without CORD 0", x.make(v), then[v]);
+        }
+    }
+
+    static void promise23_withoutOneOfSixteen(Edges is) {
+        ToldInKnots x = Texts.laid("[" + Texts.repeated("1l9", 16) + "]");
+        is.due("all", x.make(144), 0xFFFF);
+        x.knot(15, 0, 1, 9);
+        is.due("all but the last", x.make(135), 0x7FFF);
+        is.due("not with the last", x.make(144), NONE);
+        x.knot(0, 0, 1, 9);
+        is.due("nor with the first", x.make(126), 0x7FFE);
+        is.due("nor with one of both", x.make(135), NONE);
     }
 
     static void promise23_neitherTopNorWhatHangsIsIn(Edges is) {

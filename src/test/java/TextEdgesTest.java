@@ -370,6 +370,30 @@ public final class TextEdgesTest {
         }
     }
 
+    static void promise04_eachLookIsAtTheWholeText(Edges is) {
+        String text = "[1e(2e(3e)4e)^5e(6e(7e))][8.(9.)]";
+        ToldInKnots x = new ToldInKnots();
+        for (int i = 1; i <= text.length(); i++) {
+            x.write(text.charAt(i - 1));
+            is.due("behind " + i, x.fault(), text.charAt(i - 1) == ']' ? NONE : i);
+            is.due("once more", x.fault(), text.charAt(i - 1) == ']' ? NONE : i);
+        }
+        is.due("lay", x.lay(), 9);
+    }
+
+    static void promise04_nothingStaysOfALookAtAnotherText(Edges is) {
+        for (String other : new String[] {"[1e(2e(3e", "[1e^2e(", "[1e]x", "[1", "[1s", "[1l", "[1e^", "x"}) {
+            ToldInKnots x = new ToldInKnots();
+            Texts.write(x, other);
+            x.fault();
+            x.wipe();
+            is.due("empty", x.fault(), NONE);
+            Texts.write(x, "[1e2e^3e]");
+            is.due("without FAULT", x.fault(), NONE);
+            is.due("lay", x.lay(), 3);
+        }
+    }
+
     static void promise04_aFullText(Edges is) {
         ToldInKnots x = new ToldInKnots();
         fill(x, 200);
