@@ -332,6 +332,15 @@ public final class ShareEdgesTest {
         }
     }
 
+    static void promise23_whatCouldBeMadeOnceIsForgotten(Edges is) {
+        ToldInKnots x = Texts.laid("[1e1l21s1..]");
+        is.due("make(100)", x.make(100), 0b100);
+        x.knot(2, 2, 2, 2);
+        is.due("make(100) without CORD 2", x.make(100), NONE);
+        x.undo();
+        is.due("make(100) again", x.make(100), 0b100);
+    }
+
     static void promise23_withoutOneOfSixteen(Edges is) {
         ToldInKnots x = Texts.laid("[" + Texts.repeated("1l9", 16) + "]");
         is.due("all", x.make(144), 0xFFFF);
