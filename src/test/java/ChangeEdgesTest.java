@@ -103,6 +103,17 @@ public final class ChangeEdgesTest {
         }
     }
 
+    static void promise10_aFullCordEndsAheadOfTheNext(Edges is) {
+        ToldInKnots x = Texts.laid("[1s1s2s3l42l9(3e)]");
+        is.due("as it is", x.tie(0, 1234), 0);
+        is.due("WORK", x.tie(0, 0), 10);
+        is.due("the next", x.cluster(1, 0), 29);
+        is.due("WORK to the most", x.tie(0, 9999), 36);
+        is.due("the next still", x.cluster(1, 0), 29);
+        is.due("the next to 0", x.tie(1, 0), 9);
+        is.due("VALUE", x.cord(0, VALUE), 9999);
+    }
+
     static void promise10_noWorkWhereNothingBecomesAnother(Edges is) {
         is.due("[1s2.l3]", x -> x.tie(0, 203), 0);
         is.due("[1.]", x -> x.tie(0, 0), 0);

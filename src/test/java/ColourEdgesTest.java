@@ -166,6 +166,12 @@ public final class ColourEdgesTest {
         same(is, "[1.1..]", 0, 1, 0);
     }
 
+    static void promise26_aFullCordEndsAheadOfTheNext(Edges is) {
+        same(is, "[1s1s2s3l42e1s1s2s3l43.]", 0, 2, 1);
+        same(is, "[1....1....2e]", 0, 1, 1);
+        same(is, "[" + Texts.repeated("1s9s9s9l9", 16) + "]", 0, 15, 1);
+    }
+
     static void promise26_asManyHang(Edges is) {
         same(is, "[1e(2e)1e]", 0, 2, 0);
         same(is, "[1e(2e)1e(2e2e)]", 0, 2, 0);
@@ -247,6 +253,11 @@ public final class ColourEdgesTest {
         year(is, "[1s9s9s9l9]", 21, 0, 9999);
         year(is, "[1.s9s9.]", 21, 1 + 9 + 9, 1000);
         year(is, "[1s9s8l9]", 21, 8 + 9, 999);
+    }
+
+    static void promise27_aFullCordEndsAheadOfTheNext(Edges is) {
+        year(is, "[1s9s9s9l9(2l5)3s1]", 0, 18 - 1, 9989);
+        year(is, "[1s9s9s9l93s1]", 21, 0, 9999);
     }
 
     static void promise27_aDrawOf10LeavesIt(Edges is) {
@@ -424,6 +435,16 @@ public final class ColourEdgesTest {
         count(is, Texts.repeated("[1e]", 5), 2, 0);
         count(is, Texts.repeated("[1e^2e]", 5), 2, 5);
         count(is, "[1e^2e(3e)][1e]", 2, 1);
+    }
+
+    static void promise30_aFullBundleOfWhichSomeWereHung(Edges is) {
+        ToldInKnots x = Texts.laid("[1e(2e)3e^4e][" + Texts.repeated("5e", 11) + "^6e]");
+        x.hang(0, 1);
+        x.hang(14, 0);
+        int[] want = {16, 2, 2, 16, 32, 2, 0};
+        for (int what = 0; what < want.length; what++) {
+            is.due("count(" + what + ")", x.count(what), want[what]);
+        }
     }
 
     static void promise30_wellKnottedFrom0To16(Edges is) {

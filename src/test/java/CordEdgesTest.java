@@ -228,6 +228,30 @@ public final class CordEdgesTest {
         only(is, "l9l9l9s9", KNOTS, 36);
     }
 
+    static void promise06_aFullCordEndsAheadOfTheNext(Edges is) {
+        ToldInKnots x = Texts.laid("[1s1s2s3l42s9s9s9s93l4s3s2s14s1]");
+        int[][] want = {{1234, 1234, NONE, 10}, {NONE, NONE, NONE, 36}, {NONE, NONE, 1234, 10}, {NONE, NONE, NONE, 1}};
+        for (int c = 0; c < want.length; c++) {
+            is.due("CLUSTERS of " + c, x.cord(c, CLUSTERS), c < 3 ? 4 : 1);
+            for (int what = VALUE; what <= KNOTS; what++) {
+                is.due("cord(" + c + ", " + what + ")", x.cord(c, what), want[c][what - VALUE]);
+            }
+        }
+    }
+
+    static void promise06_aFullBundleOfWhichSomeWereHung(Edges is) {
+        ToldInKnots x = Texts.laid("[1e(2e)3e^4e][" + Texts.repeated("5e", 11) + "^6e]");
+        x.hang(0, 1);
+        x.hang(14, 0);
+        for (int c = 0; c < 16; c++) {
+            is.due("TOP " + c, x.cord(c, TOP), c == 3 || c == 15 ? 1 : 0);
+            is.due("GROUP of " + c, x.cord(c, GROUP), c == 2 || c == 3 || c == 14 ? 0 : 1);
+            is.due("from which " + c + " hangs", x.cord(c, HOLDER), c == 1 ? 0 : NONE);
+            is.due("WHOLE of " + c, x.cord(c, WHOLE), c == 0 ? 2 : 1);
+        }
+        is.due("no further", x.cord(16, TOP), BAD);
+    }
+
     static void promise06_knotsOfWhatHangsCountNot(Edges is) {
         is.due("[1e(2l9)]", x -> x.cord(0, KNOTS), 2);
     }

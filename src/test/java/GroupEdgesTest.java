@@ -127,6 +127,11 @@ public final class GroupEdgesTest {
         mend(is, "[1s1...^2s9s9s9l9]", 35);
     }
 
+    static void promise17_aFullCordEndsAheadOfTheNext(Edges is) {
+        mend(is, "[1s9s9s9l92e^3.]", 37);
+        mend(is, "[1s9s9s9l92e^3l9(4s9s9s9l9)]", 8);
+    }
+
     static void promise17_noneOfWhatHangsCounts(Edges is) {
         mend(is, "[1.(2s2.)^3s1.]", 1);
         mend(is, "[1.(2s2.(3s2.))^3s9.]", 5);
@@ -197,6 +202,12 @@ public final class GroupEdgesTest {
         slip(is, "[1l92.^3s1l2]", 1, 103);
         slip(is, "[1s1.2e^3l2]", 0, NONE);
         slip(is, "[1l2(9e)1l3^3l9]", 3, 5);
+    }
+
+    static void promise18_aFullCordEndsAheadOfTheNext(Edges is) {
+        slip(is, "[1s9s9s9l92e^3.]", 0, NONE);
+        slip(is, "[1s9s9s9l92.^3.]", 0, NONE);
+        slip(is, "[1....2.^3s9s9s9l9(4e)]", 0, NONE);
     }
 
     static void promise18_fromTheLastCord(Edges is) {
@@ -408,6 +419,13 @@ public final class GroupEdgesTest {
         for (int p = 1; p <= 6; p++) {
             closed(is, "....", p, 1, 0);
         }
+    }
+
+    static void promise20_aFullCordEndsAheadOfTheNext(Edges is) {
+        closed(is, "s1s2s3l42l5", 4, 1, 1234);
+        closed(is, "s1s2s3s42l5", 5, 1, 12340);
+        closed(is, "....2s1", 1, 1, 0);
+        closed(is, "...l22l5", 1, 1, 2);
     }
 
     static void promise20_asManyPlacesAsItTakes(Edges is) {
