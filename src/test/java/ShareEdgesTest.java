@@ -339,6 +339,11 @@ public final class ShareEdgesTest {
         is.due("make(100) without CORD 2", x.make(100), NONE);
         x.undo();
         is.due("make(100) again", x.make(100), 0b100);
+        ToldInKnots y = Texts.laid("[" + Texts.repeated("1.", 8) + "1l21l5]");
+        is.due("make(5)", y.make(5), 1 << 9);
+        y.knot(9, 0, 1, 5);
+        is.due("make(5) without CORD 9", y.make(5), NONE);
+        is.due("make(2) without CORD 9", y.make(2), 1 << 8);
     }
 
     static void promise23_withoutOneOfSixteen(Edges is) {
