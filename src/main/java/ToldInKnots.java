@@ -477,10 +477,11 @@ public final class ToldInKnots {
         return (int) (draw % 21) - 10;
     }
 
+    /** In how many ways so many of the places, five at most, can be chosen. */
     private static int choices(int places, int chosen) {
-        int ways = 1;
-        for (int i = 0; i < chosen; i++) {
-            ways = ways * Math.max(places - i, 0) / (i + 1);
+        int ways = 0;
+        for (int set = 0; set < 1 << places; set++) {
+            ways += Integer.bitCount(set) == chosen ? 1 : 0;
         }
         return ways;
     }

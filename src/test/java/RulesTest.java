@@ -6,10 +6,12 @@ import java.util.regex.Pattern;
 
 /** Rules of LANGUAGE.md that can be seen in the program's letters. The file is named by the property told.source. */
 public final class RulesTest {
+    private static final String DIVISOR_NOT_WRITTEN_OUT = "[/%]=?+\\s*+(?![1-9])";
     private static final String[] NOT_HERE = {"->", "::", "\\bcatch\\b", "\\btry\\b", "\\bfinally\\b", "\\bthrow\\b",
         "\\bthrows\\b", "\\bassert\\b", "\\bsynchronized\\b", "\\bvolatile\\b", "\\binstanceof\\b", "\\bpackage\\b",
         "\\bwhile\\b", "\\bdouble\\b", "\\bfloat\\b", "\\bSystem\\.(?!arraycopy\\b)", "\\bThread\\b", "Exact\\b",
-        "\\bequals\\b", "\\bhashCode\\b", "\\btoString\\b", "static\\s*\\{", "\"\\s*\\+", "\\+\\s*\""};
+        "\\bequals\\b", "\\bhashCode\\b", "\\btoString\\b", "static\\s*\\{", "\"\\s*\\+", "\\+\\s*\"",
+        DIVISOR_NOT_WRITTEN_OUT};
     private static final int LONGEST_METHOD = 60;
 
     private RulesTest() {
